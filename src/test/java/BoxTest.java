@@ -24,8 +24,10 @@ public final class BoxTest {
         idle();
         from();
         tried();
+        most();
         for (int seed = 0; seed < 60; seed++) {
-            large(new Random(seed));
+            Random random = new Random(seed);
+            large(largeText(random), random);
         }
         Check.end();
     }
@@ -123,10 +125,25 @@ public final class BoxTest {
         Check.dueOf("six digits", ARGUMENT, () -> five.tried(100000));
     }
 
+    /** More boxes than most texts have. */
+    private static void most() {
+        String text = "field a named5;field b named5;field c named5;field d named5;field e named5;"
+                + "edit a in0-1and b in0,4and d in2-4;"
+                + "edit a in1,3-4and b in0-1and c in0-1,3-4and d in0,2,4and e in0-1,3-4;"
+                + "edit a in0,3-4and b in0-2,4and c in4and e in1-4;"
+                + "edit b in0,2and c in2-3and d in0-1,4and e in0-2;"
+                + "edit a in0,3and b in1-4and c in0,2-3and e in0,2-4;"
+                + "edit b in0,2,4and c in1-2and e in0,3;";
+        EditMender x = Check.of(text);
+        Check.due("boxes", 139, x.boxes());
+        large(text, new Random(7));
+        Check.due("a smaller text behind it", 0, Check.read(x, FORM));
+        Check.due("its boxes", 3, x.boxes());
+    }
+
     // ---- boxes of large forms, by what they must be
 
-    private static void large(Random random) {
-        String text = largeText(random);
+    private static void large(String text, Random random) {
         EditMender x = Check.of(text);
         int[][] edits = new int[x.count(1)][5];
         for (int edit = 0; edit < edits.length; edit++) {

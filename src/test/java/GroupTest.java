@@ -91,6 +91,7 @@ public final class GroupTest {
         bunches(y, -1, 4, 0, 1, 2, 3);
         bunches(y, Integer.MIN_VALUE, 4, 0, 1, 2, 3);
         bunches(y, 2, 1, 0, 0, 0, 0);
+        bunches(Check.of("field a scaled 5;row 1;row 4;row 0;row 3;"), 1, 2, 0, 1, 0, 1);
         EditMender none = Check.of("field a named 2;");
         bunches(none, 0, 0);
         Check.dueOf("no rows", INDEX, () -> none.bunch(0, 0));
@@ -187,5 +188,6 @@ public final class GroupTest {
         EditMender nothing = Check.of("field a named 2;edit a in 0-1;row 0;");
         Check.due("no groups", -1, nothing.count(6));
         Check.due("none can be mended", 0, nothing.count(10));
+        Check.due("by one form all can", 2, Check.of("field a named 2;edit a in 0;row 0;row 1;").count(10));
     }
 }

@@ -234,6 +234,7 @@ public final class RowTest {
         Check.due("both in its set", 3, y.least(0, 0));
         Check.due("one of them forced", 2, y.forced(0));
         Check.due("one of them forced", 2, y.forced(1));
+        Check.due("the first field forced", 1, Check.of("field a named 2;edit a in 0;row 0;").forced(0));
         Check.dueOf("no such row", INDEX, () -> x.forced(6));
         Check.dueOf("no such row", INDEX, () -> x.forced(-1));
     }

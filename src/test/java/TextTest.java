@@ -81,7 +81,12 @@ public final class TextTest {
         Check.due("what was written stays", 2, x.count(8));
         Check.due("fields of the text", 1, x.count(0));
         Check.due("the row", "2", Check.allWritten(x));
+        Check.due("a group", 0, Check.read(x, TWO + "group a;"));
+        Check.due("the field of groups", 0, x.count(6));
+        Check.due("another group", 0, Check.read(x, TWO + "group bc;"));
+        Check.due("the field of groups", 1, x.count(6));
         Check.due("fields alone", 0, Check.read(x, TWO));
+        Check.due("no groups", -1, x.count(6));
         Check.due("no rows", 0, x.count(2));
     }
 
@@ -138,6 +143,7 @@ public final class TextTest {
         wrongAt("field a named 2;field |a named 2;");
         right("field a named 2;field aa named 2;");
         wrongAt("field a |2;");
+        wrongAt("field a|;field b named 2;");
         wrongAt("field a |name");
         wrongAt("field a named|;");
         wrongAt("field a named |1;");
@@ -153,6 +159,8 @@ public final class TextTest {
         wrongAt("field a named 2 weight|");
         wrongAt("field a named 2 weight |0;");
         wrongAt("field a named 2 weight |10;");
+        wrongAt("field a named 2 weight |99;");
+        right("field a named 2 weight 1;");
         wrongAt("field a named 2 weight 9|");
         wrongAt("field a named 2 weight 9 |weight 9;");
         right("field a scaled2weight9;");
@@ -164,6 +172,8 @@ public final class TextTest {
         wrongAt("field a named 3;edit |b in 0;");
         wrongAt("field a named 3;edit a |0;");
         wrongAt("field a named 3;edit a in |;");
+        wrongAt("field a named 3;edit a|;");
+        wrongAt("field a named 3;edit a in 0-|;");
         wrongAt("field a named 3;edit a in |3;");
         wrongAt("field a named 3;edit a in |00;");
         wrongAt("field a named 3;edit a in |?;");
@@ -204,6 +214,8 @@ public final class TextTest {
         String edits = "edit a in 0;".repeat(6);
         right(five + edits);
         wrongAt(five + edits + "|edit x");
+        wrongAt(five + "edit a in 0and b in 0and c in 0and d in 0and e in 0and |a in 0;");
+        right(five + "edit e in 0and b in 0and c in 0and d in 0and a in 0;");
         String rows = "row0;".repeat(40);
         right("field a named 2;" + rows);
         wrongAt("field a named 2;" + rows + "|row0;");
