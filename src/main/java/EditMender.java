@@ -1337,6 +1337,10 @@ public final class EditMender {
                 }
                 return;
             }
+            searchBehind(field, usable);
+        }
+
+        private void searchBehind(int field, int usable) {
             for (int set = 1; set <= usable; set++) {
                 if ((set & ~usable) == 0 && isClosed(field, set)) {
                     chosen[field] = set;
@@ -1444,17 +1448,21 @@ public final class EditMender {
         }
 
         int ownForms(int k) {
-            return ownBehind(k, 0, 0);
+            return ownFrom(k, 0, 0);
+        }
+
+        private int ownFrom(int k, int field, int form) {
+            if (field < plan.fieldCount) {
+                return ownBehind(k, field, form);
+            }
+            return isInOther(k, form) ? 0 : 1;
         }
 
         private int ownBehind(int k, int field, int form) {
-            if (field >= plan.fieldCount) {
-                return isInOther(k, form) ? 0 : 1;
-            }
             int forms = 0;
             for (int value = 0; value < plan.sizes[field]; value++) {
                 if (((setOf(k, field) >> value) & 1) != 0) {
-                    forms += ownBehind(k, field + 1, form | bitOf(field, value));
+                    forms += ownFrom(k, field + 1, form | bitOf(field, value));
                 }
             }
             return forms;
