@@ -6,15 +6,26 @@ final class Check {
         Object run();
     }
 
+    static final String INDEX = "throws.IndexOutOfBoundsException";
+    static final String ARGUMENT = "throws.IllegalArgumentException";
+    static final String NO_SUCH = "throws.NoSuchElementException";
+    static final String STATE = "throws.IllegalStateException";
+
     private static int wrong = 0;
+    private static String sentence = "";
 
     private Check() {
+    }
+
+    /** The document's sentence that the checks behind this one are of. */
+    static void says(String words) {
+        sentence = "[" + words + "] ";
     }
 
     static void due(String what, Object want, Object got) {
         if (!want.equals(got)) {
             wrong++;
-            System.out.println(what + " answered " + got + ", due is " + want);
+            System.out.println(sentence + what + " answered " + got + ", due is " + want);
         }
     }
 
@@ -63,6 +74,20 @@ final class Check {
             due("read() of " + text, "a number", rows);
         }
         return x;
+    }
+
+    /** A text that is right up to its '|', and wrong there; right as a whole without one. */
+    static void fault(String text) {
+        String told = text.replace("|", "");
+        EditMender x = new EditMender();
+        Object answer = read(x, told);
+        due("read() of '" + text + "'", text.equals(told), answer instanceof Integer);
+        due("fault() of '" + text + "'", text.indexOf('|'), x.fault());
+    }
+
+    /** The least and the greatest numbers, and those next to them. */
+    static int[] far() {
+        return new int[] {Integer.MIN_VALUE, Integer.MIN_VALUE + 1, Integer.MAX_VALUE - 1, Integer.MAX_VALUE};
     }
 
     static String written(EditMender x, int row) {

@@ -44,7 +44,7 @@ public final class ModelTest {
             if (random.nextInt(4) == 0) {
                 text = spoiled(text, random);
             }
-            left -= tell(x, y, text, random);
+            left -= tell(x, y, text);
             int calls = Math.min(left, random.nextInt(200));
             left -= calls;
             for (int k = 0; k < calls; k++) {
@@ -53,7 +53,7 @@ public final class ModelTest {
         }
     }
 
-    private static int tell(EditMender x, Model y, String text, Random random) {
+    static int tell(EditMender x, Model y, String text) {
         byte[] bytes = Check.bytes(text);
         int calls = 0;
         for (int at = 0; at < bytes.length; at += 20) {
@@ -71,7 +71,7 @@ public final class ModelTest {
         return calls + 3;
     }
 
-    private static Method method(String name) {
+    static Method method(String name) {
         return CALLS.stream().filter(m -> m.getName().equals(name)).findFirst().orElseThrow();
     }
 
@@ -105,7 +105,7 @@ public final class ModelTest {
         }
     }
 
-    private static void compare(EditMender x, Model y, Method method, Object[] args, String where) {
+    static void compare(EditMender x, Model y, Method method, Object[] args, String where) {
         Object want;
         try {
             Method twin = Model.class.getMethod(method.getName(), method.getParameterTypes());
