@@ -230,6 +230,11 @@ public final class GroupEdgeTest {
         Check.due("the last one", 39, x.bunch(39, -1));
         Check.due("one of all", 1, x.bunch(-1, 0));
         Check.due("the last one", 0, x.bunch(39, 0));
+        Check.due("40 again", 40, x.bunch(-1, -1));
+        EditMender y = Check.of("field b scaled 5;row 0;row 4;row 0;");
+        bunches(y, 4, 1, 0, 0, 0);
+        bunches(y, 3, 2, 0, 1, 0);
+        bunches(y, -1, 3, 0, 1, 2);
     }
 
     private static void bunchAny() {
@@ -507,6 +512,7 @@ public final class GroupEdgeTest {
     private static void countMendable() {
         Check.says("count: 10 ROWS that can be MENDED (some set MENDS them)");
         Check.due("nothing PASSES", 0, Check.of(NOTHING).count(10));
+        Check.due("by the only FORM that PASSES", 2, Check.of("field a named 2;edit a in 0;row 0;row 1;").count(10));
         Check.due("one that PASSES too", 3, Check.of(AB + "edit a in 0-1;row 0 0;row 2 0;row ??;").count(10));
         Check.due("no ROWS", 0, Check.of(AB).count(10));
     }

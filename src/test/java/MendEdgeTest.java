@@ -162,6 +162,10 @@ public final class MendEdgeTest {
         x.tell(5, 0, -1);
         Check.due("two of four", 11, x.would(0, 1));
         Check.due("one DONOR", 11, Check.of(AB + "row ??;row 1 1;").would(0, 1));
+        EditMender groups = Check.of("field k scaled 5;field a named 3;field g named 2;group g;"
+            + "row 0?0;row 0?1;row 1 1 0;row 2 2 0;row 0 1 1;row 0 1 1;row 3 2 1;");
+        Check.due("three DONORS", 11, groups.would(1, 1));
+        Check.due("two DONORS of another GROUP behind them", 10, groups.would(0, 1));
     }
 
     private static void mostTogetherFirst() {
@@ -184,6 +188,8 @@ public final class MendEdgeTest {
         }
         EditMender y = Check.of(AB + "edit a in 0 and b in 0-3;row ??;");
         Check.due("the first FIELD ahead of the next", 4, y.would(0, 2));
+        EditMender z = Check.of("field a named 2;field b named 2;field c named 3;edit b in 0 and c in 0-1;row ???;");
+        Check.due("the second ahead of the last", 2, z.would(0, 2));
     }
 
     private static void withoutDonors() {

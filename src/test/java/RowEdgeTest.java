@@ -28,6 +28,7 @@ public final class RowEdgeTest {
         copyFull();
         copyRefused();
         drop();
+        dropIsGone();
         fails();
         within();
         withinBehind();
@@ -273,6 +274,31 @@ public final class RowEdgeTest {
         Check.due("of 40", 39, withRows(40).drop());
     }
 
+    private static void dropIsGone() {
+        Check.says("drop: The last ROW goes (it is asked nowhere)");
+        String text = AB + "group b;edit a in 0;row 0 0;row 1 0;row ?0;";
+        EditMender with = Check.of(text + "row 2 0;");
+        EditMender without = Check.of(text);
+        with.drop();
+        Check.due("all answers", of(without), of(with));
+        EditMender failing = Check.of(text + "row 0?;");
+        failing.drop();
+        Check.due("all answers", of(without), of(failing));
+        Check.due("by way 0", without.mendAll(0), with.mendAll(0));
+        Check.due("ROWS", Check.allWritten(without), Check.allWritten(with));
+    }
+
+    /** What the calls answer that look at all rows. */
+    private static String of(EditMender x) {
+        int[] answers = {x.count(2), x.count(3), x.count(4), x.count(10), x.urgent(0), x.urgent(1), x.urgent(2),
+            x.donor(0, 0, false), x.donor(0, 1, false), x.donor(2, 0, false), x.donor(2, 1, false), x.would(0, 1),
+            x.trial(0, 0), x.trial(0, 1), x.trial(2, 2), x.patterns(), x.pattern(0, 2), x.pattern(1, 2), x.pattern(2, 2),
+            x.alike(0, false), x.alike(1, false), x.bunch(-1, 0), x.bunch(-1, 1), x.bunch(-1, -1), x.changes(0),
+            x.changes(1), x.unlike(), x.group(0, 0), x.group(0, 1), x.usual(0, 0), x.usual(-1, 0), x.share(0, 1),
+            x.share(0, 2), x.likely(0, 0)};
+        return java.util.Arrays.toString(answers);
+    }
+
     private static void fails() {
         Check.says("fails: Which EDITS a ROW FAILS (bits)");
         EditMender x = Check.of(A + "edit a in 1;".repeat(5) + "edit a in 1-2;row 0;row 1;row 2;");
@@ -359,6 +385,7 @@ public final class RowEdgeTest {
         Check.due("not one that is not of MAY; of several the least", 2, x.likely(4, 0));
         Check.due("the greatest SHARE", 4, Check.of(text + "row 4 0;row 3 0;row 4 0;row 2 0;row ?0;").likely(4, 0));
         Check.due("one ROW more", 3, Check.of(text + "row 1 0;row 3 0;row 3 0;row 1 0;row 3 0;row ?0;").likely(5, 0));
+        Check.due("of the last FIELD", 1, Check.of(AB + "row 0 1;row 0 0;row 1 1;row 0?;").likely(3, 1));
         Check.due("SHARES of 0: the least of MAY", 0, Check.of(text + "row ?0;").likely(0, 0));
         Check.due("what others have is not of MAY", 0, Check.of(text + "row 4 0;row ?1;").likely(1, 0));
     }
@@ -529,6 +556,9 @@ public final class RowEdgeTest {
         EditMender y = Check.of("field a named 3;field b named 3 weight 9;edit a in 1 and b in 1;edit a in 0;row 1 0;row ?0;row ?1;");
         Check.due("two VALUES", 0, y.forced(1));
         Check.due("one VALUE", 1, y.forced(2));
+        EditMender z = Check.of(AB + "edit a in 0-1;edit b in 1;row 0 1;row ??;");
+        Check.due("both", 3, z.forced(0));
+        Check.due("both MISSING", 3, z.forced(1));
         noSuchRow("forced", row -> x.forced(row));
     }
 
@@ -545,9 +575,9 @@ public final class RowEdgeTest {
         Check.says("URGENT: ROWS that do not PASS, by how many EDITS they FAIL, the most first,"
             + " then by the WEIGHT of LEAST, the greatest first (none: ahead of all others), then by numbers");
         EditMender x = Check.of("field a named 3 weight 9;field b named 2;edit a in 0;edit a in 0 and b in 0;edit b in 1;"
-            + "row ??;row 1 1;row 0 1;row 0 0;row 1?;row 1 0;row 1 1;");
-        // Edits failed: 0 1 2 2 0 (passes) 1; weights of the least sets: 10 1 10 9 1 - 1.
-        int[] want = {2, 3, 1, 6, 0, 4};
+            + "row ?0;row 1 1;row 0 0;row 1?;row 0 1;row ??;row 1 0;row ?1;row 2 1;");
+        // Edits failed: 0 1 2 0 2 0 (passes) 1 1; weights of the least sets: 9 1 9 1 10 10 - 10 1.
+        int[] want = {4, 2, 7, 1, 8, 5, 0, 3};
         for (int k = 0; k < want.length; k++) {
             Check.due("urgent " + k, want[k], x.urgent(k));
         }
@@ -556,6 +586,9 @@ public final class RowEdgeTest {
         for (int k = 0; k < none.length; k++) {
             Check.due("no LEAST: urgent " + k, none[k], y.urgent(k));
         }
+        EditMender z = Check.of(A + "edit a in 0;edit a in 1-2;row ?;row 0;");
+        Check.due("no LEAST, an EDIT failed", 1, z.urgent(0));
+        Check.due("no LEAST, no EDIT failed", 0, z.urgent(1));
     }
 
     private static void urgentBehind() {

@@ -45,6 +45,7 @@ public final class TextEdgeTest {
         endBehind();
         readUsesUp();
         readInPlace();
+        readFewerBoxes();
         readNothingUndone();
         readHowMany();
         readWrong();
@@ -195,6 +196,8 @@ public final class TextEdgeTest {
         Check.fault("field a named |4294967298;");
         Check.fault("field a named 3 weight |01;");
         Check.fault("field a named 3 weight |11;");
+        Check.fault("field a named 3 weight |19;");
+        Check.fault("field a named 3 weight |99;");
         Check.fault(A + "edit a in |01;");
         Check.fault(A + "edit a in 0-|01;");
         Check.fault(A + "edit a in 0,|00;");
@@ -547,6 +550,7 @@ public final class TextEdgeTest {
             Check.due("count " + what, want[what], x.count(what));
         }
         Check.due("boxes", 0, x.boxes());
+        Check.dueOf("box", Check.NO_SUCH, () -> x.box(0, 0));
         Check.due("passing", 2, x.passing());
         Check.due("letter", (int) 'c', x.name(0, 0));
         Check.due("letters", -1, x.name(0, 1));
@@ -554,6 +558,22 @@ public final class TextEdgeTest {
         Check.dueOf("fields", Check.INDEX, () -> x.field(1, 0));
         Check.dueOf("edits", Check.INDEX, () -> x.edit(0, 0));
         Check.dueOf("rows", Check.INDEX, () -> x.answer(0, 0));
+    }
+
+    private static void readFewerBoxes() {
+        Check.says("read: in place of the one before (its BOXES, too)");
+        EditMender x = Check.of(AB + "edit a in 0;edit b in 3;row 0 3;");
+        Check.due("in the second BOX", 1, x.within(0, 1));
+        Check.due("of its own", 4, x.cover(0, true));
+        Check.read(x, AB + "edit a in 0;row 0 3;row 1 3;");
+        Check.due("BOXES", 1, x.boxes());
+        Check.due("of its own", 5, x.cover(0, true));
+        Check.due("in the BOX", 0, x.within(0, 0));
+        Check.due("in no second one", -1, x.within(0, 1));
+        Check.due("in none", -1, x.within(1, 0));
+        Check.due("its FIELD", 0, x.blame(0));
+        Check.due("none", -1, x.blame(1));
+        Check.due("FIELDS that ENTER it", 1, x.box(0, -1));
     }
 
     private static void readNothingUndone() {
